@@ -678,7 +678,8 @@ public final class PennyBooks {
         private static final int TOO_DEEP = 5;
 
         // if then kind units or and not word came pence week year shop, as numbers of 5 bits a letter.
-        private static final long[] KEYWORDS = {294, 663726, 370116, 22488723, 498, 1476, 14836, 769604, 99749, 16955493, 758955, 824370, 631280};
+        private static final long[] KEYWORDS = {294, 663726, 370116, 22488723, 498, 1476, 14836, 769604, 99749,
+            16955493, 758955, 824370, 631280};
         // TOKENS: a keyword is its place in that row, a SIGN is its byte, and the others are these.
         private static final int IF = 0;
         private static final int THEN = 1;
@@ -912,7 +913,9 @@ public final class PennyBooks {
 
         private void takeBehindOne() {
             if (token == AND || token == OR) {
-                hold(token == AND ? Judge.AND : Judge.OR);
+                int step = token == AND ? Judge.AND : Judge.OR;
+                release(Judge.bindingOf(step));
+                hold(step);
                 state = AT_ONE;
             } else if (token == THEN) {
                 release(0);
@@ -943,7 +946,7 @@ public final class PennyBooks {
                 refuse(TOO_DEEP);
             } else if (token == '(') {
                 brackets++;
-                holdBracket();
+                hold(Judge.BRACKET);
             } else if (atomStep() == NONE) {
                 refuse(CANT_STAND);
             } else {
@@ -972,6 +975,7 @@ public final class PennyBooks {
         private void takeBehindAtom() {
             int step = operatorStep();
             if (step != NONE) {
+                release(Judge.bindingOf(step));
                 hold(step);
                 state = AT_ATOM;
             } else if (brackets > 0) {
@@ -1011,17 +1015,27 @@ public final class PennyBooks {
         }
 
         private void takeComparison() {
-            if (token == '<') {
-                hold(Judge.LESS);
-            } else if (token == '>') {
-                hold(Judge.MORE);
-            } else if (token == '=') {
-                hold(Judge.SAME);
-            } else {
+            int step = comparisonStep();
+            if (step == NONE) {
                 refuse(CANT_STAND);
                 return;
             }
+            release(Judge.bindingOf(step));
+            hold(step);
             openSum(RIGHT_SUM);
+        }
+
+        private int comparisonStep() {
+            switch (token) {
+                case '<':
+                    return Judge.LESS;
+                case '>':
+                    return Judge.MORE;
+                case '=':
+                    return Judge.SAME;
+                default:
+                    return NONE;
+            }
         }
 
         private void takeBehindResult() {
@@ -1041,29 +1055,22 @@ public final class PennyBooks {
 
         private void endRule() {
             if (test < LONGEST_TEXT) {
-                code[test] = Judge.coded(Judge.THEN, size);
+                code[test] = (long) size << Judge.STEP_BITS | Judge.THEN;
             }
             emit(Judge.END, 0);
             rules++;
             state = AT_RULE;
         }
 
-        /** An operator waits until its right side is read; those that bind no less go ahead of it. */
+        /** An operator waits until its right side is read. */
         private void hold(int step) {
-            release(Judge.bindingOf(step));
             if (waits < MOST_WAITING) {
                 waiting[waits] = step;
                 waits++;
             }
         }
 
-        private void holdBracket() {
-            if (waits < MOST_WAITING) {
-                waiting[waits] = Judge.BRACKET;
-                waits++;
-            }
-        }
-
+        /** Those that bind no less than what comes now have their right side. */
         private void release(int binding) {
             while (waits > 0 && Judge.bindingOf(waiting[waits - 1]) >= binding) {
                 waits--;
@@ -1074,7 +1081,7 @@ public final class PennyBooks {
         private void emit(int step, long number) {
             // No TOKEN gives more than one step, so the code has room for every text.
             if (size < LONGEST_TEXT) {
-                code[size] = Judge.coded(step, number);
+                code[size] = number << Judge.STEP_BITS | step;
                 size++;
             }
         }
@@ -1086,6 +1093,9 @@ public final class PennyBooks {
         // Seven levels of brackets with two numbers waiting in each, and the TEST's own, are far fewer.
         private static final int DEEPEST = 64;
 
+        // A step of the code is its number in the lowest bits, and above them what goes with it.
+        private static final int STEP_BITS = 8;
+        private static final int STEP_MASK = 255;
         // The tens of an operator's step tell how tightly it binds.
         private static final int BRACKET = 0;
         private static final int NUMBER = 1;
@@ -1126,10 +1136,6 @@ public final class PennyBooks {
 
         static int bindingOf(int step) {
             return step / 10;
-        }
-
-        static long coded(int step, long number) {
-            return number << 8 | step;
         }
 
         int addEdition(long[] steps, int many) {
@@ -1198,8 +1204,8 @@ public final class PennyBooks {
             long units = 1;
             height = 0;
             for (int at = first; at < last; at++) {
-                int step = (int) (code[at] & 255);
-                long number = code[at] >> 8;
+                int step = (int) (code[at] & STEP_MASK);
+                long number = code[at] >> STEP_BITS;
                 if (step == THEN) {
                     if (pop() == 0) {
                         at = Math.max(at, first + (int) number);
