@@ -196,6 +196,8 @@ public final class EditionTest {
         holds("word te", false);
         holds("word teas", false);
         holds("not word tea", false);
+        holds("not word zoo", true);
+        holds("word zooaz", false);
         holds("not word beer", true);
         holds("came", false);
         holds("not came", true);
@@ -317,6 +319,10 @@ public final class EditionTest {
         x.asof(9999);
         x.reading(5, 15, 6);
         Tests.due(x, "that came, too", x.moved(a, b), 3, 0);
+        Tests.due(x, "the rule of one line", x.kind(5, a, 2), 0, 0);
+        Tests.due(x, "the rule of another", x.kind(1, a, 2), -1, 6);
+        x.reading(0, 15, 7);
+        Tests.due(x, "the first line, too", x.moved(a, b), 4, 0);
         Tests.due(x, "no edition", x.moved(2, 0), -1, 1);
         Tests.due(x, "no edition", x.moved(0, 2), -1, 1);
         Tests.due(x, "no edition", x.moved(-1, 0), -1, 1);

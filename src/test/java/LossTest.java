@@ -4,6 +4,7 @@ public final class LossTest {
         losses();
         fell();
         likes();
+        firstFamily();
         edges();
         status();
         Tests.end();
@@ -95,6 +96,29 @@ public final class LossTest {
         Tests.due(x, "no days back", x.likes(other, 1), 0, 0);
         x.asof(8);
         Tests.due(x, "as known", x.likes(loss, 1), 2, 0);
+    }
+
+    /** The first FAMILY may be like, and the first LOSS may be the one that keeps it from that. */
+    private static void firstFamily() {
+        PennyBooks x = new PennyBooks();
+        x.family(0, 0);
+        x.family(0, 0);
+        int e = x.edition(0);
+        int own = x.loss(0, 300);
+        int loss = x.loss(1, 101);
+        lines(x, 0, 100, 1, 2);
+        lines(x, 1, 100, 7, 5);
+        Tests.due(x, "family 0 is like", x.likes(loss, 1), 1, 0);
+        Tests.fraction(x, "beside family 0", x.fell(loss, 0, e, 1), -3, 1);
+        lines(x, 1, 299, 7, 5);
+        lines(x, 0, 299, 7, 5);
+        Tests.due(x, "family 1 is like", x.likes(own, 1), 1, 0);
+        int later = x.loss(1, 299);
+        Tests.due(x, "lost, too", x.likes(own, 1), 0, 0);
+        Tests.due(x, "lost by the first loss", x.likes(later, 2), 0, 0);
+        lines(x, 0, 297, 1, 1);
+        Tests.due(x, "though there each week", x.likes(later, 2), 0, 0);
+        Tests.due(x, "not so a week ahead", x.likes(later, 1), 1, 0);
     }
 
     private static void edges() {

@@ -73,9 +73,16 @@ public final class ModelTest {
             families = Math.max(families, 1 + (int) call("family", odd(random.nextInt(classes)), pick(0, 3)));
         }
         families = Math.max(families, 1 + (int) call("family", 0, 0));
-        int first = random.nextInt(90);
+        boolean full = random.nextInt(8) == 0;
+        int first = full ? 230 : random.nextInt(90);
         for (int i = 0; i < first && !wrong; i++) {
             line();
+        }
+        for (int i = 0; i < 60 && full && !wrong; i++) {
+            reading();
+            call("told", aFamily(), aWeek(), random.nextInt(dearest));
+            call("loss", aFamily(), aWeek());
+            member();
         }
         feedText(START[random.nextInt(START.length)], 0);
         text();

@@ -104,6 +104,10 @@ public final class MouthTest {
         Tests.due(x, "kind -2", x.share(0, 5, -2, e), -1, 1);
         Tests.due(x, "no edition", x.share(0, 5, 1, e + 1), -1, 1);
         Tests.due("the fraction stays", x.top(), 40);
+        x.scale(1, 0, 0, 0);
+        Tests.fraction(x, "a hundredth of a mouth", x.share(0, 5, 1, e), 6000, 1);
+        x.scale(50, 0, 0, 100);
+        x.share(0, 5, 1, e);
         x.scale(0, 0, 0, 0);
         Tests.due(x, "no mouths", x.share(0, 5, 1, e), -1, 6);
         Tests.due("the fraction stays", x.top(), 40);

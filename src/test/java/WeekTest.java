@@ -52,6 +52,16 @@ public final class WeekTest {
         best(y, 1, 0, 0);
         line(y, 518, 0, 0);
         best(y, 1, 0, 0);
+        line(y, 0, 1, 0);
+        best(y, 1, 1, 1);
+        line(y, 0, 2, 0);
+        best(y, 1, 2, 2);
+        PennyBooks v = new PennyBooks();
+        v.family(0, 0);
+        line(v, 30, 0, 0);
+        line(v, 20, 0, 0);
+        line(v, 10, 0, 0);
+        best(v, 11, 0, 0);
         PennyBooks z = new PennyBooks();
         z.family(0, 0);
         line(z, 518, 0, 0);
