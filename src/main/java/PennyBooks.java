@@ -1755,110 +1755,90 @@ public final class PennyBooks {
     private static final class Weights {
         private static final int MOST_WEIGHED = 8;
         private static final int MARGINS = 8;
-        private static final int LANDS_FROM = 4;
+        private static final int CLASSES = 4;
+        private static final int LANDS = 4;
         private static final int MOST_MARGIN = 100;
-        private static final int FAR_APART = 1000000;
 
         private final Ledger ledger;
         private int weighed;
         private final int[] nearest = new int[MOST_WEIGHED];
-        private final int[] margins = new int[MARGINS];
-        // How far each MARGIN's WEIGHTS are together, and how much those still to come can add.
-        private final int[] sums = new int[MARGINS];
-        private final int[] room = new int[MARGINS];
-        private final int[] tried = new int[MOST_WEIGHED];
-        private int least;
-        private int most;
+        // What each CLASS, then each LAND, still lacks by the WEIGHTS given so far; below 0 it has too much.
+        private final int[] lacks = new int[MARGINS];
+        // By CLASS and LAND, how much the FAMILIES without a WEIGHT yet can have together.
+        private final int[] room = new int[CLASSES * LANDS];
 
         Weights(Ledger ledger) {
             this.ledger = ledger;
         }
 
-        /** Answers whether all are MARGINS; the tray has as many numbers. */
+        /** Answers whether all are MARGINS; the TRAY has as many numbers. */
         boolean takeMargins(Trays trays, int tray) {
             for (int i = 0; i < MARGINS; i++) {
                 long margin = trays.at(tray, i);
                 if (margin < 0 || margin > MOST_MARGIN) {
                     return false;
                 }
-                margins[i] = (int) margin;
+                lacks[i] = (int) margin;
             }
             return true;
         }
 
-        int findNearest(int n, int mostWeight) {
+        /** FAMILY by FAMILY the least WEIGHT with which the others can still come as near as can be. */
+        int findNearest(int n, int most) {
             weighed = n;
-            most = mostWeight;
-            least = FAR_APART;
-            Arrays.fill(sums, 0);
             Arrays.fill(room, 0);
             for (int family = 0; family < n; family++) {
-                widen(family, most);
+                room[cellOf(family)] += most;
             }
-            tryFrom(0);
+            int least = leastUnlike();
+            for (int family = 0; family < n; family++) {
+                room[cellOf(family)] -= most;
+                nearest[family] = 0;
+                while (nearest[family] < most && leastUnlike() > least) {
+                    nearest[family]++;
+                    lacks[ledger.classOf[family]]--;
+                    lacks[CLASSES + ledger.landOf[family]]--;
+                }
+            }
             return least;
         }
 
-        private void widen(int family, int weight) {
-            room[ledger.classOf[family]] += weight;
-            room[LANDS_FROM + ledger.landOf[family]] += weight;
+        private int cellOf(int family) {
+            return ledger.classOf[family] * LANDS + ledger.landOf[family];
         }
 
-        private void add(int family, int weight) {
-            sums[ledger.classOf[family]] += weight;
-            sums[LANDS_FROM + ledger.landOf[family]] += weight;
-        }
-
-        /** Goes on FAMILY by FAMILY from the lesser WEIGHTS, so the first of like ones stays. */
-        private void tryFrom(int family) {
-            int bound = leastPossible();
-            if (bound >= least) {
-                return;
-            }
-            if (family >= weighed) {
-                least = bound;
-                System.arraycopy(tried, 0, nearest, 0, weighed);
-                return;
-            }
-            widen(family, -most);
-            for (int weight = 0; weight <= most; weight++) {
-                tried[family] = weight;
-                add(family, weight);
-                tryFrom(family + 1);
-                add(family, -weight);
-            }
-            widen(family, most);
-        }
-
-        /** No more than what any choice still open gives, and just that where none is open. */
-        private int leastPossible() {
+        /**
+         * What is UNLIKE at least, whatever the WEIGHTS still to come. Beyond a MARGIN more WEIGHT never helps,
+         * so these go, as a flow from classes to lands, only where both lack some; each 1 makes it less by 2.
+         */
+        private int leastUnlike() {
             int apart = 0;
             for (int i = 0; i < MARGINS; i++) {
-                apart += distance(margins[i], sums[i], sums[i] + room[i]);
+                apart += Math.abs(lacks[i]);
             }
-            return Math.max(apart, leastByTotals());
+            int flow = apart;
+            // The greatest flow is the least cut: of any set of classes on the near side of it.
+            for (int near = 0; near < 1 << CLASSES; near++) {
+                flow = Math.min(flow, cutBehind(near));
+            }
+            return apart - 2 * flow;
         }
 
-        /** Classes and lands have the same WEIGHTS in all, so MARGINS of unlike totals can't both be met. */
-        private int leastByTotals() {
-            int byClass = 0;
-            int byLand = 0;
-            int total = 0;
-            int open = 0;
-            for (int i = 0; i < LANDS_FROM; i++) {
-                byClass += margins[i];
-                byLand += margins[LANDS_FROM + i];
-                total += sums[i];
-                open += room[i];
+        private int cutBehind(int near) {
+            int cut = 0;
+            for (int what = 0; what < CLASSES; what++) {
+                if ((near >> what & 1) == 0) {
+                    cut += Math.max(0, lacks[what]);
+                }
             }
-            int lower = Math.min(byClass, byLand);
-            int upper = Math.max(byClass, byLand);
-            int outer = Math.max(0, total - upper) + Math.max(0, lower - total - open);
-            return upper - lower + 2 * outer;
-        }
-
-        private static int distance(int number, int from, int to) {
-            return Math.max(0, Math.max(from - number, number - to));
+            for (int land = 0; land < LANDS; land++) {
+                int reach = 0;
+                for (int what = 0; what < CLASSES; what++) {
+                    reach += (near >> what & 1) * room[what * LANDS + land];
+                }
+                cut += Math.min(reach, Math.max(0, lacks[CLASSES + land]));
+            }
+            return cut;
         }
     }
 
