@@ -31,6 +31,12 @@ public final class EditionTest {
         x.feed(-1, 0, 0, 0, 0);
         Tests.due(x, "the first 15 bytes", x.edition(15), -1, 9);
         Tests.due("the end is the text's length", x.fault(1), 15);
+        Tests.feed(x, "if came then kind 1;");
+        Tests.due(x, "a word cut by n", x.edition(6), -1, 9);
+        Tests.due("is another word", x.fault(1), 3);
+        Tests.feed(x, "if came then kind 12;");
+        Tests.due(x, "a number cut by n", x.edition(19), -1, 9);
+        Tests.due("ends where the text ends", x.fault(1), 19);
         Tests.due("the tape is empty", x.feed(0, 0, 0, 0, 0), 20);
         Tests.due(x, "n below 0", x.edition(-1), -1, 1);
         Tests.due(x, "n above", x.edition(21), -1, 1);
