@@ -267,7 +267,7 @@ public final class EditionBoundsTest {
 
     private static void whicheverName() {
         Edge.sentence("NAME: a WORD of 1 to 8 letters, whichever");
-        String[] own = {"if", "then", "kind", "units", "or", "and", "not", "word", "came", "pence", "week", "year", "shop"};
+        String[] own = "if then kind units or and not word came pence week year shop".split(" ");
         for (String name : own) {
             text("if word " + name + " then kind 1;", 0, -1, 1);
             text("if not word " + name + " and word " + name + " or came then kind 1;", 0, -1, 1);

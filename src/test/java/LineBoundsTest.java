@@ -14,6 +14,7 @@ public final class LineBoundsTest {
         lineNumbers();
         keptAtTheEnds();
         atMost200Lines();
+        allOf200Lines();
         readingNumbers();
         atMost60Readings();
         daysNeverGoBack();
@@ -69,10 +70,11 @@ public final class LineBoundsTest {
         long all = Tests.word("mmmmmmmm");
         for (int place = 0; place < 8; place++) {
             long others = all & ~(31L << 5 * place);
-            Tests.due(Edge.about("z in place " + place), new PennyBooks().words(others | 26L << 5 * place, 0, 0), true);
-            Tests.due(Edge.about("27 in place " + place), new PennyBooks().words(others | 27L << 5 * place, 0, 0), false);
-            Tests.due(Edge.about("31 in place " + place), new PennyBooks().words(others | 31L << 5 * place, 0, 0), false);
-            Tests.due(Edge.about("0 in place " + place), new PennyBooks().words(others, 0, 0), place == 7);
+            for (long letter : new long[] {0, 26, 27, 31}) {
+                boolean want = letter == 26 || letter == 0 && place == 7;
+                boolean got = new PennyBooks().words(others | letter << 5 * place, 0, 0);
+                Tests.due(Edge.about(letter + " in place " + place), got, want);
+            }
         }
     }
 
@@ -200,6 +202,39 @@ public final class LineBoundsTest {
         Edge.refused(Desks::fullOfLines, Call.of("line", 0, 0, 0, 1, false, 0, 9), 4);
         Edge.taken(Desks::fullOfLines, Call.of("reading", 199, 5, 9), 1);
         Edge.refused(Desks::fullOfLines, Call.of("reading", 200, 5, 9), 1);
+    }
+
+    /** LINE i has i + 1 pence, in WEEK i. */
+    private static void allOf200Lines() {
+        Edge.sentence("LINES, at most 200: each call goes to the last of them, and not beyond");
+        PennyBooks x = Desks.fullOfLines();
+        int e = Tests.edition(x, "if pence > 100 then kind 1;");
+        x.rules(60, 1);
+        x.told(0, 199, 0);
+        x.told(0, 0, 2);
+        x.loss(0, 174);
+        Tests.due(x, Edge.about("kind"), x.kind(199, e, 0), 1, 0);
+        Tests.due(x, Edge.about("moved"), x.moved(e, e), 0, 0);
+        Tests.due(x, Edge.about("spent on the last"), x.spent(0, 199, 1, e), 200, 0);
+        Tests.due(x, Edge.about("spent on the first"), x.spent(0, 0, -1, e), 1, 0);
+        Tests.due(x, Edge.about("spent beyond"), x.spent(0, 200, -1, e), 0, 0);
+        Tests.due(x, Edge.about("out of the last"), x.out(0, 199), -200, 0);
+        Tests.due(x, Edge.about("out of the first"), x.out(0, 0), 1, 0);
+        Tests.due(x, Edge.about("slip of the last"), x.slip(199), 1, 0);
+        Tests.due(x, Edge.about("slip of the first"), x.slip(0), 2, 0);
+        Tests.due(x, Edge.about("ways"), x.ways(99, e), 0, 0);
+        Tests.due(x, Edge.about("span"), x.span(99, e, 1, 0), -1, 6);
+        Tests.fraction(x, Edge.about("price"), x.price(1, 3, e, 2), 200, 1);
+        Tests.due(x, Edge.about("change"), x.change(0, 0), 1, 0);
+        Tests.due(x, Edge.about("unlike"), x.change(0, 2), 0, 0);
+        Tests.due(x, Edge.about("gaps"), x.gaps(0), 0, 0);
+        Tests.due(x, Edge.about("bound"), x.bound(0, 100, 60, 0), -1, 6);
+        Tests.due(x, Edge.about("likes"), x.likes(0, 26), 0, 0);
+        Tests.due(x, Edge.about("fell"), x.fell(0, -1, e, 26), -1, 6);
+        x.asof(8);
+        Tests.due(x, Edge.about("none as of 8"), x.pence(199), -1, 6);
+        x.asof(9);
+        Tests.due(x, Edge.about("all as of 9"), x.pence(199), 200, 0);
     }
 
     private static void readingNumbers() {

@@ -11,6 +11,8 @@ public final class LossBoundsTest {
         othersThanIt();
         noLossInThem();
         thereAreLikeOnes();
+        theFirstAndTheLastFamily();
+        theFirstWeek();
         theMean();
         onAKind();
         elevenLikeOnes();
@@ -206,6 +208,35 @@ public final class LossBoundsTest {
         Edge.sentence("and there are LIKE ones");
         Edge.refused(() -> lostToo(1, 101), Call.of("fell", 0, -1, 0, 1), 6);
         Edge.taken(() -> desk(2), Call.of("fell", 0, -1, 0, 1), 0);
+    }
+
+    private static void theFirstAndTheLastFamily() {
+        Edge.sentence("LIKE ones: the first FAMILY, too, and the twelfth");
+        PennyBooks x = desk(12);
+        int loss = x.loss(11, 100);
+        Tests.went(x, 0, 100, 11, "tea");
+        Tests.due(x, Edge.about("ten: not the first one, that has a LOSS"), x.likes(loss, 2), 10, 0);
+        Tests.due(x, Edge.about("eleven, over one WEEK"), x.likes(loss, 1), 11, 0);
+        Tests.fraction(x, Edge.about("beside the first one"), x.fell(loss, -1, 0, 1), -1, 1);
+        Tests.due(x, Edge.about("ten: not the twelfth, that has a LOSS"), x.likes(0, 3), 10, 0);
+    }
+
+    private static void theFirstWeek() {
+        Edge.sentence("a LINE that went in each: in WEEK 0 of FAMILY 0, too");
+        for (int family = 0; family < 2; family++) {
+            PennyBooks x = new PennyBooks();
+            x.edition(0);
+            x.family(0, 0);
+            x.family(0, 0);
+            x.loss(family, 1);
+            Tests.went(x, 0, 1, 10, "tea");
+            Tests.went(x, 1, 0, 10, "tea");
+            Tests.went(x, 1, 1, 10, "tea");
+            Tests.due(x, Edge.about("FAMILY 0 has none in WEEK 0"), x.fell(0, -1, 0, 1), -1, 6);
+            Tests.due(x, Edge.about("LIKE ones"), x.likes(0, 1), family == 0 ? 1 : 0, 0);
+            Tests.went(x, 0, 0, 9, "tea");
+            Tests.fraction(x, Edge.about("now it has"), x.fell(0, -1, 0, 1), family == 0 ? 1 : -1, 1);
+        }
     }
 
     private static void theMean() {

@@ -339,7 +339,8 @@ public final class MouthBoundsTest {
                 Tests.went(x, i, 0, 5, "tea");
                 Tests.went(x, i, 0, 6, "tea");
             }
-            Tests.due(x, Edge.about(families + " FAMILIES"), x.price(0, 0, 0, 0), families < 3 ? -1 : 1, families < 3 ? 7 : 0);
+            boolean shut = families < 3;
+            Tests.due(x, Edge.about(families + " FAMILIES"), x.price(0, 0, 0, 0), shut ? -1 : 1, shut ? 7 : 0);
         }
     }
 

@@ -197,6 +197,20 @@ public final class SumBoundsTest {
         PennyBooks x = many(9, 9000);
         x.asof(9);
         Tests.due(x, Edge.about("a tenth, once it is known"), x.slips(0, 5, 0), -1, 6);
+        // The first WEEK of the first FAMILY, with nothing else on the desk, and the last one of 200 LINES.
+        x = new PennyBooks();
+        x.family(0, 0);
+        x.told(0, 0, 9000);
+        x.told(0, 519, 9000);
+        for (int i = 0; i < 9; i++) {
+            Tests.went(x, 0, 0, 1000, "tea");
+        }
+        Tests.due(x, Edge.about("nine in WEEK 0"), x.slips(0, 0, 0), 0, 0);
+        for (int i = 9; i < 200; i++) {
+            Tests.went(x, 0, i < 191 ? 100 : 519, 1000, "tea");
+        }
+        Tests.due(x, Edge.about("the last nine of 200"), x.slips(0, 519, 0), 0, 0);
+        Tests.due(x, Edge.about("the 200th"), x.slip(199), 0, 0);
     }
 
     private static void explained(int pence, int told, int slip) {
@@ -227,7 +241,8 @@ public final class SumBoundsTest {
     }
 
     private static void figuresExchanged() {
-        Edge.sentence("two neighbouring figures of it were exchanged (3: the last two, 4: those ahead of the last one, ..)");
+        Edge.sentence("two neighbouring figures of it were exchanged"
+            + " (3: the last two, 4: those ahead of the last one, ..)");
         explained(13579, 13597, 3);
         explained(13579, 13759, 4);
         explained(13579, 15379, 5);
@@ -272,6 +287,10 @@ public final class SumBoundsTest {
         unexplained(5791, 50791);
         explained(15791, 51791, 6);
         unexplained(5791, 57910);
+        unexplained(9, 90);
+        unexplained(99, 909);
+        unexplained(999, 9099);
+        unexplained(9999, 90999);
     }
 
     private static void carryFromMinus3To3() {

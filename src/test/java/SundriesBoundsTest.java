@@ -18,6 +18,8 @@ public final class SundriesBoundsTest {
         roundedDown();
         oneAtLeast();
         sumOfOneWeek();
+        weeksOfTheirOwn();
+        askedAfterAnother();
         twentyAtMost();
         zeroToMost();
         together();
@@ -266,6 +268,53 @@ public final class SundriesBoundsTest {
         span(x, "another KIND's UNITS are its own", 2, 1, 6);
         line(x, 111, 9, 9, "a");
         span(x, "too far away for MOST, too", 1, 0, 5);
+    }
+
+    private static void weeksOfTheirOwn() {
+        Edge.sentence("in one WEEK: of a KIND, in any of the WEEKS not more than 60 away");
+        PennyBooks x = mixed(2);
+        x.rules(60, 3);
+        for (int away = 1; away <= 60; away++) {
+            line(x, 100 + away, 1, 1, "a");
+            line(x, 100 - away, 1, 1, "b");
+        }
+        for (int away = 1; away <= 3; away++) {
+            line(x, 100 - away, 1, 1, "a");
+            line(x, 100 + away, 1, 1, "b");
+        }
+        // One at most of each, at 1: two pence are one of each.
+        Tests.due(x, Edge.about("two KINDS"), x.ways(0, 0), 1, 0);
+        span(x, "KIND 1", 1, 1, 1);
+        span(x, "KIND 2", 2, 1, 1);
+        x = new PennyBooks();
+        x.family(0, 0);
+        Tests.edition(x, "if word a then kind 14 units 2; if word b then kind 15 units 3;");
+        x.rules(60, 3);
+        line(x, 100, 5, 0, "misc");
+        line(x, 160, 2, 0, "a");
+        line(x, 40, 3, 0, "b");
+        line(x, 160, 3, 0, "b");
+        line(x, 40, 2, 0, "a");
+        Tests.due(x, Edge.about("the last two KINDS, 60 away"), x.ways(0, 0), 1, 0);
+        span(x, "KIND 14", 14, 2, 2);
+        span(x, "KIND 15", 15, 3, 3);
+    }
+
+    private static void askedAfterAnother() {
+        Edge.sentence("MOST and PRICE are those of the LINE asked");
+        PennyBooks x = mixed(5);
+        line(x, 99, 5, 5, "a");
+        line(x, 300, 5, 0, "misc");
+        line(x, 299, 2, 2, "a");
+        line(x, 301, 3, 1, "b");
+        Tests.due(x, Edge.about("five of one THING"), x.ways(0, 0), 1, 0);
+        Tests.due(x, Edge.about("two of one, one of another"), x.ways(2, 0), 1, 0);
+        Tests.due(x, Edge.about("two"), x.span(2, 0, 1, 1), 2, 0);
+        Tests.due(x, Edge.about("five"), x.span(0, 0, 1, 1), 5, 0);
+        Tests.due(x, Edge.about("one"), x.span(2, 0, 2, 1), 1, 0);
+        Tests.due(x, Edge.about("none"), x.span(0, 0, 2, 1), -1, 6);
+        x.reading(2, 6, 0);
+        Tests.due(x, Edge.about("not so many"), x.ways(2, 0), 0, 0);
     }
 
     private static void twentyAtMost() {

@@ -215,7 +215,8 @@ public final class TrayBoundsTest {
         Tests.due(x, Edge.about("by " + shift), x.pour(1, 3, 1, 3 + shift, 6), 0);
         for (int place = 0; place < 12; place++) {
             boolean moved = place >= 3 + shift && place < 9 + shift;
-            Tests.due(x, Edge.about(place + " by " + shift), x.read(1, place), 10 * (moved ? place - shift : place) - 60, 0);
+            int was = moved ? place - shift : place;
+            Tests.due(x, Edge.about(place + " by " + shift), x.read(1, place), 10 * was - 60, 0);
         }
     }
 

@@ -13,6 +13,8 @@ public final class VerdictBoundsTest {
         firstRule();
         comparing();
         orAndNot();
+        fromLeftToRight();
+        behindAFault();
         yearOfAWeek();
         roundOn();
         towardsZero();
@@ -84,7 +86,8 @@ public final class VerdictBoundsTest {
 
     private static void noSuchRule() {
         Edge.sentence("with no such RULE it is KIND 0 with 1 UNIT");
-        String[] texts = {"", "if came then kind 3 units 9;", "if came then kind 3 units 9; if 1=2 then kind 4 units 8;"};
+        String one = "if came then kind 3 units 9;";
+        String[] texts = {"", one, one + " if 1=2 then kind 4 units 8;"};
         for (String text : texts) {
             judged(text, 0, 1);
             Edge.refused(() -> withEdition(text), Call.of("kind", 0, 0, 2), 6);
@@ -100,7 +103,8 @@ public final class VerdictBoundsTest {
 
     private static void firstRule() {
         Edge.sentence("a LINE is of the first RULE whose TEST holds");
-        String text = "if pence < 60 then kind 1 units 4; if pence = 60 then kind 2 units 5; if pence > 59 then kind 3;";
+        String text = "if pence < 60 then kind 1 units 4; if pence = 60 then kind 2 units 5;"
+            + " if pence > 59 then kind 3;";
         judged(text, 2, 5);
         Edge.taken(() -> withEdition(text), Call.of("kind", 0, 0, 2), 1);
         judged("if pence > 59 then kind 3; " + text, 3, 1);
@@ -126,12 +130,15 @@ public final class VerdictBoundsTest {
 
     private static void orAndNot() {
         Edge.sentence("TEST: PART {or PART}. PART: ONE {and ONE}");
-        String[] truth = {"came", "not came"};
-        for (int bits = 0; bits < 8; bits++) {
+        String[] no = {"came", "word pie", "pence < 60", "not word tea", "not pence = 60"};
+        String[] yes = {"not came", "word tea", "pence > 59", "not word pie", "not shop < 7"};
+        for (int round = 0; round < 5 * 8; round++) {
+            int bits = round & 7;
+            int way = round >> 3;
             boolean a = (bits & 1) != 0;
             boolean b = (bits & 2) != 0;
             boolean c = (bits & 4) != 0;
-            String[] of = {truth[bits & 1], truth[bits >> 1 & 1], truth[bits >> 2]};
+            String[] of = {(a ? yes : no)[way], (b ? yes : no)[(way + 1) % 5], (c ? yes : no)[(way + 3) % 5]};
             holds(of[0], a);
             holds(of[0] + " and " + of[1], a && b);
             holds(of[0] + " or " + of[1], a || b);
@@ -139,6 +146,37 @@ public final class VerdictBoundsTest {
             holds(of[0] + " or " + of[1] + " and " + of[2], a || b && c);
             holds(of[0] + " and " + of[1] + " and " + of[2], a && b && c);
             holds(of[0] + " or " + of[1] + " or " + of[2], a || b || c);
+        }
+    }
+
+    private static void fromLeftToRight() {
+        Edge.sentence("SUM: ITEM {+ ITEM, or - ITEM}. ITEM: ATOM {* ATOM, or / ATOM}");
+        holds("10-3-2 = 5", true);
+        holds("10-3+2 = 9", true);
+        holds("10+3-2-1 = 10", true);
+        holds("100/10/5 = 2", true);
+        holds("7/2*2 = 6", true);
+        holds("7*2/4 = 3", true);
+        holds("7*2/4*3/2 = 4", true);
+        holds("1+2*3-8/3*2 = 3", true);
+        holds("(1+2)*(3-1)/(4-1) = 2", true);
+        holds("10-(3-2) = 9", true);
+        holds("2*((3+4)*(5-(6-3))) = 28", true);
+    }
+
+    private static void behindAFault() {
+        Edge.sentence("an EDITION behind one with a FAULT is as on a new desk");
+        String[] faulty = {"if not (1+2*(3-(4/", "if came and 1+", "if came or not word tea and (((((((",
+            "if 1=1 then kind (2+(", "if 1=1 then kind 3 units 4*(",
+            "if 1=1 then kind 5 units 6; if 7=7 then kind 8", "if not #"};
+        for (String text : faulty) {
+            PennyBooks x = desk();
+            Tests.due(x, Edge.about(text), Tests.edition(x, text), -1, 9);
+            int e = Tests.edition(x, "if came then kind 1; if (1)=1 and not came then kind ((((((9-3)))))) units 2+3;");
+            Tests.due(x, Edge.about("behind " + text), e, 0, 0);
+            Tests.due(x, Edge.about("KIND behind " + text), x.kind(0, e, 0), 6, 0);
+            Tests.due(x, Edge.about("UNITS behind " + text), x.kind(0, e, 1), 5, 0);
+            Tests.due(x, Edge.about("RULE behind " + text), x.kind(0, e, 2), 1, 0);
         }
     }
 

@@ -17,6 +17,7 @@ public final class WeekBoundsTest {
         notMoreThanN();
         boundsCount();
         boundRefused();
+        askedAfterAnother();
         lossNumbers();
         atMostTwelveLosses();
         Tests.end();
@@ -257,6 +258,24 @@ public final class WeekBoundsTest {
         Edge.taken(Desks::rich, Call.of("bound", 2, 11, 2, 0), 5);
         Edge.taken(Desks::rich, Call.of("bound", 2, 11, 2, 1), 8);
         Edge.refused(Desks::rich, Call.of("bound", 3, 102, 60, 0), 6);
+    }
+
+    private static void askedAfterAnother() {
+        Edge.sentence("GAPS, BOUNDS and HANDS are those of the FAMILY asked");
+        PennyBooks x = went(0, 900, 519, 800, 2, 700);
+        Tests.went(x, 1, 100, 5, "tea");
+        Tests.due(x, Edge.about("many"), x.gaps(0), 516 + 1, 0);
+        Tests.due(x, Edge.about("none"), x.gaps(1), 0, 0);
+        Tests.due(x, Edge.about("many again"), x.gaps(0), 516 + 1, 0);
+        Tests.due(x, Edge.about("a GAP of the one"), x.bound(0, 1, 1, 1), 900, 0);
+        Tests.due(x, Edge.about("is none of the other"), x.bound(1, 1, 60, 1), -1, 6);
+        Tests.went(x, 1, 102, 6, "tea");
+        Tests.due(x, Edge.about("a GAP of the one"), x.bound(0, 1, 1, 1), 900, 0);
+        Tests.due(x, Edge.about("the greatest of the other"), x.bound(1, 101, 60, 1), 6, 0);
+        Tests.due(x, Edge.about("the least of the other"), x.bound(1, 101, 60, 0), 5, 0);
+        Tests.due(x, Edge.about("the least of the one"), x.bound(0, 1, 60, 0), 700, 0);
+        Tests.due(x, Edge.about("the CHANGE of the one"), x.change(0, 0), 1, 0);
+        Tests.due(x, Edge.about("the CHANGE of the other"), x.change(1, 0), 101, 0);
     }
 
     private static void lossNumbers() {

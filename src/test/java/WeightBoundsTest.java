@@ -183,6 +183,10 @@ public final class WeightBoundsTest {
         nearest(x, 4, 0, 0, 4, 4);
         margins(x, 5, 4, 0, 0, 5, 4, 0, 0);
         nearest(x, 4, 0, 1, 4, 4);
+        // All CLASSES or all LANDS have less than the others want.
+        nearest(corners(1, 1, 1, 1, 4, 4, 4, 4), 4, 12, 1, 1, 1, 1);
+        nearest(corners(4, 4, 4, 4, 1, 1, 1, 1), 4, 12, 1, 1, 1, 1);
+        nearest(corners(9, 9, 9, 9, 9, 9, 9, 9), 4, 40, 4, 4, 4, 4);
     }
 
     private static void lesserWeights() {
