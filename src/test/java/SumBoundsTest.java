@@ -351,6 +351,11 @@ public final class SumBoundsTest {
         // 10 pence left out is -10, exchanged it is -9.
         Edge.taken(() -> one(10, 0), Call.of("slips", 0, 5, 1), 1);
         Edge.taken(() -> one(10, 1), Call.of("slips", 0, 5, 1), 1);
+        // 12 pence left out and a CARRY of 1 are nothing together, but more SLIPS than none.
+        Edge.taken(() -> one(12, 12), Call.of("slips", 0, 5, 1), 1);
+        Edge.taken(() -> lines(24, 12, 12), Call.of("slips", 0, 5, 1), 1);
+        Edge.taken(() -> lines(5100, 12, 88, 5000), Call.of("slips", 0, 5, 1), 1);
+        Edge.taken(() -> lines(5088, 12, 88, 5000), Call.of("slips", 0, 5, 1), 2);
         Edge.taken(() -> many(9, 6000), Call.of("slips", 0, 5, 1), 84);
         Edge.taken(() -> many(9, 12000), Call.of("slips", 0, 5, 1), 84);
         Edge.taken(() -> many(9, 9000), Call.of("slips", 0, 5, 1), 1);

@@ -162,6 +162,18 @@ public final class VerdictBoundsTest {
         holds("(1+2)*(3-1)/(4-1) = 2", true);
         holds("10-(3-2) = 9", true);
         holds("2*((3+4)*(5-(6-3))) = 28", true);
+        Edge.sentence("SUM COMPARES SUM: on the right, too");
+        for (String compares : new String[] {" = ", " < ", " > "}) {
+            for (int left = 6; left <= 8; left++) {
+                boolean want = compares.equals(" = ") ? left == 7 : compares.equals(" < ") ? left < 7 : left > 7;
+                for (String seven : new String[] {"7", "2+5", "9-2", "7*1", "14/2", "(2+5)", "1+2*3", "shop"}) {
+                    holds(left + compares + seven, want);
+                    holds("not " + left + compares + seven, !want);
+                    holds(left + compares + seven + " and not came", want);
+                    holds("came or " + left + "+3-3" + compares + seven, want);
+                }
+            }
+        }
     }
 
     private static void behindAFault() {
