@@ -2,6 +2,10 @@
 public final class EditionBoundsTest {
     private static final String SIGNS = ";<>=+-*/()";
     private static final String RULE = "if 1=1then kind 1;";
+    /** One TOKEN of each sort, and those that a SUM may begin with. */
+    private static final String[] TOKENS = {"if", "then", "kind", "units", "or", "and", "not", "word", "came", "pence",
+        "week", "year", "shop", "tea", "7", ";", "<", ">", "=", "+", "-", "*", "/", "(", ")"};
+    private static final String SUM = " pence week year shop 7 ( ";
 
     public static void main(String[] args) {
         tapeOf600();
@@ -20,6 +24,7 @@ public final class EditionBoundsTest {
         theEnd();
         thirtyRules();
         sixBrackets();
+        withinSixBrackets();
         firstAlongTheText();
         leastKindOfOneToken();
         whereTokensStand();
@@ -352,6 +357,22 @@ public final class EditionBoundsTest {
         }
     }
 
+    /** Within six brackets all that can't stand there is 2, as within five; only one more that opens is 5. */
+    private static void withinSixBrackets() {
+        Edge.sentence("5 brackets within six others: no other TOKEN");
+        for (String ahead : new String[] {"if ", "if 7 < ", "if came then kind ", "if came then kind 7 units "}) {
+            for (String token : TOKENS) {
+                boolean stands = SUM.contains(" " + token + " ") && !token.equals("(");
+                String five = ahead + "( ( ( ( ( ";
+                String six = five + "( ";
+                int behind = five.length() + token.length() + 1;
+                boolean opens = token.equals("(");
+                text(five + token + " #", stands || opens ? 1 : 2, stands || opens ? behind : five.length(), 0);
+                text(six + token + " #", stands ? 1 : opens ? 5 : 2, stands ? behind + 2 : six.length(), 0);
+            }
+        }
+    }
+
     private static void firstAlongTheText() {
         Edge.sentence("FAULTS, the first along the text");
         text("if came came #", 2, 8, 0);
@@ -383,9 +404,7 @@ public final class EditionBoundsTest {
 
     /** Each TOKEN in turn behind each start of a RULE: those that the grammar has there, and no others. */
     private static void whereTokensStand() {
-        String[] tokens = {"if", "then", "kind", "units", "or", "and", "not", "word", "came", "pence", "week", "year",
-            "shop", "tea", "7", ";", "<", ">", "=", "+", "-", "*", "/", "(", ")"};
-        String sum = " pence week year shop 7 ( ";
+        String sum = SUM;
         String sign = " + - * / ";
         String[][] starts = {
             {"", " if "},
@@ -415,7 +434,7 @@ public final class EditionBoundsTest {
         };
         Edge.sentence("2 it can't stand there");
         for (String[] start : starts) {
-            for (String token : tokens) {
+            for (String token : TOKENS) {
                 PennyBooks x = new PennyBooks();
                 String text = start[0] + " " + token;
                 boolean stands = start[1].contains(" " + token + " ");

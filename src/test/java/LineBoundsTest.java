@@ -13,6 +13,7 @@ public final class LineBoundsTest {
         wordsToldAtFirst();
         lineNumbers();
         keptAtTheEnds();
+        justItsWords();
         atMost200Lines();
         allOf200Lines();
         readingNumbers();
@@ -185,6 +186,32 @@ public final class LineBoundsTest {
         Tests.due(x, Edge.about("of FAMILY 0"), x.change(0, 2), 0, 0);
         Tests.due(x, Edge.about("of FAMILY 11"), x.change(11, 2), 0, 0);
         Tests.due(x, Edge.about("none of FAMILY 10"), x.change(10, 2), -1, 6);
+    }
+
+    /** A LINE has just the WORDS told, in whichever place; lesser and greater ones it has not. */
+    private static void justItsWords() {
+        Edge.sentence("one to three WORDS; word holds if the LINE has that WORD");
+        String[] words = {"b", "g", "m", "s", "y", "bb", "abcdefgh"};
+        String[] others = {"a", "c", "f", "h", "l", "n", "r", "t", "x", "z", "ba", "bc", "abcdefgi", "abcdefg"};
+        for (int many = 1; many <= 3; many++) {
+            for (int first = 0; first < words.length; first++) {
+                PennyBooks x = new PennyBooks();
+                x.family(0, 0);
+                StringBuilder mine = new StringBuilder();
+                long[] told = new long[3];
+                for (int i = 0; i < many; i++) {
+                    String word = words[(first + i * 3) % words.length];
+                    told[i] = Tests.word(word);
+                    mine.append(i > 0 ? " and " : "").append("word ").append(word);
+                }
+                x.words(told[0], told[1], told[2]);
+                x.line(0, 0, 0, 1, false, 0, 0);
+                int e = Tests.edition(x, "if " + mine + " then kind 1;");
+                Tests.due(x, Edge.about("it has " + mine), x.kind(0, e, 0), 1, 0);
+                e = Tests.edition(x, "if word " + String.join(" or word ", others) + " then kind 1;");
+                Tests.due(x, Edge.about("it has no others than " + mine), x.kind(0, e, 0), 0, 0);
+            }
+        }
     }
 
     private static void atMost200Lines() {

@@ -1,8 +1,3 @@
-import java.lang.reflect.InvocationTargetException;
-import java.lang.reflect.Method;
-import java.util.ArrayList;
-import java.util.Arrays;
-import java.util.List;
 import java.util.Random;
 
 /** Runs of random calls on the class and on PlainBooks: answers, STATUS and FRACTION must be the same. */
@@ -19,9 +14,7 @@ public final class ModelTest {
     };
 
     private final Random random;
-    private final PennyBooks books = new PennyBooks();
-    private final PlainBooks plain = new PlainBooks();
-    private final List<String> run = new ArrayList<>();
+    private final Twin twin = new Twin();
     /** How close WEEKS lie: runs with few WEEKS meet themselves more. */
     private final int weeks;
     private final int base;
@@ -32,8 +25,6 @@ public final class ModelTest {
     private int editions = 0;
     private int losses = 0;
     private int day = 0;
-    private int calls = 0;
-    private boolean wrong = false;
 
     private ModelTest(long seed) {
         random = new Random(seed);
@@ -51,8 +42,8 @@ public final class ModelTest {
         for (long seed = from; seed < from + runs && bad < 5; seed++) {
             ModelTest one = new ModelTest(seed);
             one.play();
-            asked += one.calls;
-            bad += one.wrong ? 1 : 0;
+            asked += one.twin.calls();
+            bad += one.twin.isWrong() ? 1 : 0;
         }
         System.out.println(asked + " calls compared, " + bad + " runs wrong");
         if (bad != 0) {
@@ -62,7 +53,7 @@ public final class ModelTest {
 
     private void play() {
         build();
-        for (int i = 0; i < 300 && !wrong; i++) {
+        for (int i = 0; i < 300 && !twin.isWrong(); i++) {
             step();
         }
     }
@@ -75,10 +66,10 @@ public final class ModelTest {
         families = Math.max(families, 1 + (int) call("family", 0, 0));
         boolean full = random.nextInt(8) == 0;
         int first = full ? 230 : random.nextInt(90);
-        for (int i = 0; i < first && !wrong; i++) {
+        for (int i = 0; i < first && !twin.isWrong(); i++) {
             line();
         }
-        for (int i = 0; i < 60 && full && !wrong; i++) {
+        for (int i = 0; i < 60 && full && !twin.isWrong(); i++) {
             reading();
             call("told", aFamily(), aWeek(), random.nextInt(dearest));
             call("loss", aFamily(), aWeek());
@@ -152,31 +143,14 @@ public final class ModelTest {
     }
 
     private void feedText(String text, int more) {
-        for (int at = 0; at < text.length(); at += 20) {
-            call("feed", four(text, at), four(text, at + 4), four(text, at + 8), four(text, at + 12), four(text, at + 16));
-        }
-        editions = Math.max(editions, 1 + (int) call("edition", text.length() + more));
-        for (int what = -1; what < 4; what++) {
-            call("fault", what);
-        }
-    }
-
-    private static int four(String text, int at) {
-        int four = 0;
-        for (int i = at; i < at + 4; i++) {
-            four = four << 8 | (i < text.length() ? text.charAt(i) : 32);
-        }
-        return four;
+        editions = Math.max(editions, 1 + (int) twin.edition(text, more));
     }
 
     /** Most sums told are near what was spent, so that SLIPS have something to explain. */
     private void tell() {
         int family = random.nextInt(families);
         int week = base + random.nextInt(weeks);
-        int spent = editions == 0 ? 0 : Math.max(0, books.spent(family, week, -1, 0));
-        if (editions > 0) {
-            plain.spent(family, week, -1, 0);
-        }
+        int spent = editions == 0 ? 0 : (int) Math.max(0, call("spent", family, week, -1, 0));
         int near = spent + random.nextInt(5) * 9 + random.nextInt(5) * 12 - 36;
         int told = random.nextInt(3) == 0 ? random.nextInt(2 * dearest) : near;
         call("told", family, week, told);
@@ -268,36 +242,6 @@ public final class ModelTest {
     }
 
     private long call(String name, Object... args) {
-        if (wrong) {
-            return 0;
-        }
-        calls++;
-        run.add(name + Arrays.toString(args));
-        Object got = invoke(books, name, args);
-        Object want = invoke(plain, name, args);
-        String mine = got + " " + books.status() + " " + books.top() + " " + books.bottom();
-        String theirs = want + " " + plain.status() + " " + plain.top() + " " + plain.bottom();
-        if (!mine.equals(theirs)) {
-            wrong = true;
-            for (String line : run) {
-                System.out.println(line);
-            }
-            System.out.println("answer, status, top, bottom: " + mine + ", due is " + theirs);
-        }
-        return got instanceof Number n ? n.longValue() : 0;
-    }
-
-    private static Object invoke(Object on, String name, Object... args) {
-        for (Method m : on.getClass().getDeclaredMethods()) {
-            if (m.getName().equals(name) && m.getParameterCount() == args.length
-                && java.lang.reflect.Modifier.isPublic(m.getModifiers())) {
-                try {
-                    return m.invoke(on, args);
-                } catch (IllegalAccessException | InvocationTargetException e) {
-                    throw new IllegalStateException(name + Arrays.toString(args), e);
-                }
-            }
-        }
-        throw new IllegalStateException(name);
+        return twin.call(name, args);
     }
 }

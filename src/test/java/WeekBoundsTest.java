@@ -18,6 +18,7 @@ public final class WeekBoundsTest {
         boundsCount();
         boundRefused();
         askedAfterAnother();
+        eachFamilyHasItsOwn();
         lossNumbers();
         atMostTwelveLosses();
         Tests.end();
@@ -276,6 +277,27 @@ public final class WeekBoundsTest {
         Tests.due(x, Edge.about("the least of the one"), x.bound(0, 1, 60, 0), 700, 0);
         Tests.due(x, Edge.about("the CHANGE of the one"), x.change(0, 0), 1, 0);
         Tests.due(x, Edge.about("the CHANGE of the other"), x.change(1, 0), 101, 0);
+    }
+
+    /** FAMILY f has one LINE in each WEEK up to f in one HAND, then three in another one, and a GAP ahead of the last. */
+    private static void eachFamilyHasItsOwn() {
+        Edge.sentence("CHANGES, GAPS and BOUNDS are those of the FAMILY asked, whichever of twelve it is");
+        PennyBooks x = new PennyBooks();
+        for (int f = 0; f < 12; f++) {
+            x.family(0, 0);
+            for (int i = 0; i < f + 4; i++) {
+                x.words(1, 0, 0);
+                x.line(f, i < f + 3 ? i : i + f + 1, 0, 100 * f + i + 1, false, i <= f ? 7 - f % 7 : f % 7 == 0 ? 1 : 0, 0);
+            }
+        }
+        for (int f = 0; f < 12; f++) {
+            Tests.due(x, Edge.about("the CHANGE of " + f), x.change(f, 0), f + 1, 0);
+            Tests.due(x, Edge.about("UNLIKE of " + f), x.change(f, 1), 0, 0);
+            Tests.due(x, Edge.about("without a CHANGE, of " + f), x.change(f, 2), Math.min(f + 1, 3), 0);
+            Tests.due(x, Edge.about("GAPS of " + f), x.gaps(f), f + 1, 0);
+            Tests.due(x, Edge.about("the least of " + f), x.bound(f, f + 3, 1, 0), 101 * f + 3, 0);
+            Tests.due(x, Edge.about("the greatest of " + f), x.bound(f, 2 * f + 3, f + 1, 1), 101 * f + 4, 0);
+        }
     }
 
     private static void lossNumbers() {
