@@ -300,6 +300,16 @@ public final class EditionBoundsTest {
         }
         text("if", 2, 2, 0);
         text("if \n ", 2, 5, 0);
+        // Blanks and words on the tape behind the text are no part of it.
+        for (int n = 2; n <= 5; n++) {
+            for (String more : new String[] {"if          came", "if\n\n\n\n\n\n\n\n\n\n\n\n\n\n"}) {
+                PennyBooks x = new PennyBooks();
+                Tests.feed(x, more);
+                Tests.due(x, Edge.about(n + " bytes"), x.edition(n), -1, 9);
+                Tests.due(Edge.about("the FAULT of " + n + " bytes"), x.fault(0), 2);
+                Tests.due(Edge.about("its place"), x.fault(1), n);
+            }
+        }
         text(RULE + " if ", 2, RULE.length() + 4, 0);
     }
 

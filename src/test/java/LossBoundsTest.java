@@ -269,6 +269,11 @@ public final class LossBoundsTest {
         Tests.fraction(x, Edge.about("KIND 1"), x.fell(0, 1, e, 1), 0, 1);
         Tests.fraction(x, Edge.about("all"), x.fell(0, Tests.NONE, e, 1), 12, 1);
         Tests.fraction(x, Edge.about("KIND 0 by the other"), x.fell(0, 0, 0, 1), 12, 1);
+        Tests.went(x, 1, 101, 2, "pie");
+        Tests.went(x, 1, 101, 9, "tea");
+        Tests.fraction(x, Edge.about("KIND 0, less its own"), x.fell(0, 0, e, 1), 5, 1);
+        Tests.fraction(x, Edge.about("KIND 15, less its own"), x.fell(0, 15, e, 1), -4, 1);
+        Tests.fraction(x, Edge.about("KIND 0 by the other, less its own"), x.fell(0, 0, 0, 1), 1, 1);
     }
 
     private static void elevenLikeOnes() {

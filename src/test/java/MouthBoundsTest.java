@@ -14,6 +14,7 @@ public final class MouthBoundsTest {
         shareNumbers();
         shareIfAboveZero();
         shareTold();
+        shareOfEach();
         priceNumbers();
         yearsOfPrices();
         theMiddle();
@@ -221,6 +222,31 @@ public final class MouthBoundsTest {
         Tests.fraction(x, Edge.about("the most by the most"), x.share(0, 7, 0, 0), 50000, 1);
         Tests.went(x, 0, 7, 1, "tea");
         Tests.fraction(x, Edge.about("a penny more"), x.share(0, 7, 0, 0), 2000001, 40);
+    }
+
+    private static void shareOfEach() {
+        Edge.sentence("SHARE is that of the FAMILY, WEEK, KIND and EDITION asked");
+        PennyBooks x = new PennyBooks();
+        for (int e = 0; e < 4; e++) {
+            Tests.edition(x, "if pence > 0 then kind " + (e + 5) + ";");
+        }
+        for (int f = 0; f < 5; f++) {
+            x.family(0, 0);
+            x.member(f, -2000, 0, 519);
+            x.member(f, -2000, 0, 2 * f + 1);
+            Tests.went(x, f, 2 * f, 10 * f + 1, "tea");
+            Tests.went(x, f, 2 * f + 2, 10 * f + 3, "tea");
+        }
+        for (int f = 0; f < 5; f++) {
+            for (int e = 0; e < 4; e++) {
+                String whose = f + " by " + e;
+                Tests.fraction(x, Edge.about(whose), x.share(f, 2 * f, e + 5, e), 10 * f + 1, 2);
+                Tests.fraction(x, Edge.about(whose), x.share(f, 2 * f + 2, e + 5, e), 10 * f + 3, 1);
+                Tests.fraction(x, Edge.about(whose), x.share(f, 2 * f + 2, Tests.NONE, e), 10 * f + 3, 1);
+                Tests.fraction(x, Edge.about(whose), x.share(f, 2 * f + 2, e + 4, e), 0, 1);
+                Tests.fraction(x, Edge.about(whose), x.share(f, 2 * f + 1, e + 5, e), 0, 1);
+            }
+        }
     }
 
     private static void priceNumbers() {

@@ -1,3 +1,6 @@
+import java.util.ArrayList;
+import java.util.List;
+
 /** Promises 25 to 27: each sentence that names a boundary, on both sides of it. */
 public final class SundriesBoundsTest {
     /** WORDS a to o are KINDS 1 to 15, with as many UNITS as the SHOP's number; all others are SUNDRIES. */
@@ -15,11 +18,13 @@ public final class SundriesBoundsTest {
         atMost2000Pence();
         waysRefused();
         nearestLine();
+        nearestInAnyOrder();
         roundedDown();
         oneAtLeast();
         sumOfOneWeek();
         weeksOfTheirOwn();
         askedAfterAnother();
+        ofTheLineAsked();
         twentyAtMost();
         zeroToMost();
         together();
@@ -164,7 +169,13 @@ public final class SundriesBoundsTest {
             Edge.refused(() -> priced(pence, pence), Call.of("ways", 0, 0), 6);
             Edge.refused(() -> priced(pence, pence), Call.of("span", 0, 0, 1, 0), 6);
         }
-        PennyBooks x = priced(2001, 2000);
+        PennyBooks x = priced(2000, 1990);
+        line(x, 101, 10, 1, "b");
+        Tests.due(x, Edge.about("two THINGS"), x.ways(0, 0), 1, 0);
+        span(x, "one of the first", 1, 1, 1);
+        span(x, "one of the second", 2, 1, 1);
+        span(x, "no third", 15, -1, -1);
+        x = priced(2001, 2000);
         x.reading(0, 2000, 5);
         Tests.due(x, Edge.about("as read"), x.ways(0, 0), 1, 0);
         x.asof(4);
@@ -213,6 +224,27 @@ public final class SundriesBoundsTest {
         Tests.due(x, Edge.about("nearer, though later"), x.ways(0, 0), 0, 0);
         line(x, 99, 60, 1, "a");
         Tests.due(x, Edge.about("as near, but earlier again"), x.ways(0, 0), 1, 0);
+    }
+
+    /** LINES of four WEEKS in every order, with SUNDRIES between them: the nearest is the one in 98. */
+    private static void nearestInAnyOrder() {
+        Edge.sentence("nearest in WEEKS (of like ones the earlier WEEK): however the LINES came");
+        for (int order = 0; order < 24; order++) {
+            List<Integer> weeks = new ArrayList<>(List.of(97, 98, 102, 103));
+            PennyBooks x = desk();
+            int rest = order;
+            for (int i = 4; i > 0; i--) {
+                int week = weeks.remove(rest % i);
+                rest /= i;
+                line(x, week, week, 1, "a");
+                line(x, 100, 98, 0, "misc");
+                line(x, 101, 102, 0, "misc");
+            }
+            for (int line = 1; line < 12; line += 3) {
+                Tests.due(x, Edge.about("98 in 100, order " + order), x.ways(line, 0), 1, 0);
+                Tests.due(x, Edge.about("102 in 101, order " + order), x.ways(line + 1, 0), 1, 0);
+            }
+        }
     }
 
     private static void roundedDown() {
@@ -315,6 +347,57 @@ public final class SundriesBoundsTest {
         Tests.due(x, Edge.about("none"), x.span(0, 0, 2, 1), -1, 6);
         x.reading(2, 6, 0);
         Tests.due(x, Edge.about("not so many"), x.ways(2, 0), 0, 0);
+    }
+
+    /** SUNDRIES of two FAMILIES at both ends of the WEEKS, so that no LINE's number is like another one's WEEK. */
+    private static void ofTheLineAsked() {
+        Edge.sentence("THINGS are those of the FAMILY and the WEEKS of the LINE asked, by the EDITION asked");
+        PennyBooks x = desk();
+        Tests.edition(x, "if word a then kind 15 units shop; if word b then kind 3 units shop;");
+        int[] weeks = {1, 60, 250, 459, 518};
+        for (int i = 0; i < weeks.length; i++) {
+            for (int family = 0; family < 2; family++) {
+                for (int side = -1; side <= 1; side++) {
+                    x.words(Tests.word(side < 0 ? "a" : side > 0 ? "b" : "misc"), 0, 0);
+                    int units = side == 0 ? 0 : i + 1 + family;
+                    int pence = side < 0 ? units * (3 + i) : side > 0 ? units * 7 : 3 + i + 7 * (1 + family);
+                    x.line(family, weeks[i] + side, units, pence, false, 0, 0);
+                }
+            }
+        }
+        x.rules(2, 3);
+        for (int i = 0; i < weeks.length; i++) {
+            for (int family = 0; family < 2; family++) {
+                int line = 6 * i + 3 * family + 1;
+                int[] due = twoThings(3 + i + 7 * (1 + family), 3 + i, 7, i + 1 + family);
+                for (int e = 0; e < 2; e++) {
+                    String asked = "in " + weeks[i] + " of " + family + " by " + e;
+                    Tests.due(x, Edge.about(asked), x.ways(line, e), due[0], 0);
+                    Tests.due(x, Edge.about(asked + " fewest"), x.span(line, e, e == 0 ? 1 : 15, 0), due[1], 0);
+                    Tests.due(x, Edge.about(asked + " most"), x.span(line, e, e == 0 ? 1 : 15, 1), due[2], 0);
+                    Tests.due(x, Edge.about(asked + " fewest"), x.span(line, e, e == 0 ? 2 : 3, 0), due[3], 0);
+                    Tests.due(x, Edge.about(asked + " most"), x.span(line, e, e == 0 ? 2 : 3, 1), due[4], 0);
+                    Tests.due(x, Edge.about(asked + " none"), x.span(line, e, e == 0 ? 3 : 2, 1), -1, 6);
+                }
+            }
+        }
+    }
+
+    /** WAYS of two THINGS at such prices, then the fewest and the most of each. */
+    private static int[] twoThings(int pence, int price, int other, int most) {
+        int[] due = {0, most, 0, most, 0};
+        for (int a = 0; a <= most; a++) {
+            for (int b = 0; b <= most; b++) {
+                if (a * price + b * other == pence) {
+                    due[0]++;
+                    due[1] = Math.min(due[1], a);
+                    due[2] = Math.max(due[2], a);
+                    due[3] = Math.min(due[3], b);
+                    due[4] = Math.max(due[4], b);
+                }
+            }
+        }
+        return due;
     }
 
     private static void twentyAtMost() {
