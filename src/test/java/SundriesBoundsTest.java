@@ -25,6 +25,7 @@ public final class SundriesBoundsTest {
         weeksOfTheirOwn();
         askedAfterAnother();
         ofTheLineAsked();
+        theLastLine();
         twentyAtMost();
         zeroToMost();
         together();
@@ -398,6 +399,29 @@ public final class SundriesBoundsTest {
             }
         }
         return due;
+    }
+
+    private static void theLastLine() {
+        Edge.sentence("LINES, at most 200: SUNDRIES as the last of them, and THINGS as the last");
+        for (int week : new int[] {0, 519}) {
+            PennyBooks x = desk();
+            int beside = week == 0 ? 1 : 518;
+            for (int i = 0; i < 198; i++) {
+                line(x, 260, 1, 1, "b");
+            }
+            line(x, beside, 6, 2, "o");
+            int last = line(x, week, 6, 0, "misc");
+            Tests.due(x, Edge.about("two of the THING ahead of it"), x.ways(last, 0), 1, 0);
+            Tests.due(x, Edge.about("how many"), x.span(last, 0, 15, 0), 2, 0);
+            x = desk();
+            for (int i = 0; i < 198; i++) {
+                line(x, 260, 1, 1, "b");
+            }
+            last = line(x, week, 6, 0, "misc");
+            line(x, beside, 6, 2, "o");
+            Tests.due(x, Edge.about("two of the last THING"), x.ways(last, 0), 1, 0);
+            Tests.due(x, Edge.about("how many"), x.span(last, 0, 15, 1), 2, 0);
+        }
     }
 
     private static void twentyAtMost() {
